@@ -1,0 +1,1 @@
+public final class FaceTest { public static void main(String[] a) { } }
