@@ -20,6 +20,8 @@ public final class TwoOnOneDay {
     private static final int MOST_PAIRS = 21, LAST_SEED = 99999, MOST_SEEDS = 50;
 
     private static final int PERSON = 0, SPRING = 1, TOLD = 2, LATE = 3, NEARLY = 4, SHY = 5, KINDS = 6;
+    /** What may be taken beside KINDS. */
+    private static final int DAY = 6;
     private static final int WEIGHS = 0, PAYS = 1, ASKS = 2;
     private static final int BYTES = 0, SHORTS = 1, INTS = 2;
 
@@ -103,7 +105,7 @@ public final class TwoOnOneDay {
             return FULL;
         }
         for (int i = 0; i < n; i++) {
-            tape.append(i == 0 ? a : i == 1 ? b : i == 2 ? c : i == 3 ? d : e);
+            tape.add(i == 0 ? a : i == 1 ? b : i == 2 ? c : i == 3 ? d : e);
         }
         return tape.size;
     }
@@ -121,7 +123,7 @@ public final class TwoOnOneDay {
         if (made == null) {
             return FAULTS - reader.fault;
         }
-        return book.append(made);
+        return book.add(made);
     }
 
     public int force(int t) {
@@ -154,7 +156,7 @@ public final class TwoOnOneDay {
         if (people.number >= MOST_PEOPLE) {
             return FULL;
         }
-        int p = people.append(kind, more, d);
+        int p = people.add(kind, more, d);
         weights.forgetOne(p);
         return p;
     }
@@ -727,7 +729,7 @@ public final class TwoOnOneDay {
     }
 
     public int taken(int i, int kind) {
-        if (kind < 0 || kind > KINDS) {
+        if (!People.isKind(kind) && kind != DAY) {
             return BAD;
         }
         if (i < 0 || i >= MOST_DAYS + MOST_PEOPLE) {
@@ -740,7 +742,7 @@ public final class TwoOnOneDay {
         if (!year.has(d) || year.born[d] == 0) {
             return MISSING;
         }
-        return kind == KINDS ? year.born[d] : UNLIKE;
+        return kind == DAY ? year.born[d] : UNLIKE;
     }
 
     private int takenPerson(int p, int kind) {
@@ -830,7 +832,7 @@ public final class TwoOnOneDay {
         }
 
         /** The caller has seen that there is room. */
-        int append(int ofKind, int ofMore, int ofTold) {
+        int add(int ofKind, int ofMore, int ofTold) {
             int p = number;
             if (p < MOST_PEOPLE) {
                 kind[p] = ofKind;
@@ -920,7 +922,10 @@ public final class TwoOnOneDay {
         // signs are told by their bytes, so all else stands below 40
         static final int END = 0, WRONG = 1, NUMBER = 2, NAME = 3, KEY = 4;
         static final int OR = KEY + 3, AND = KEY + 4, NOT = KEY + 5;
-        static final int KEYS = 6, WORDS = 12, MOST_DIGITS = 4;
+        private static final int KEYS = 6, MOST_LETTERS = 6, MOST_DIGITS = 4;
+        // KEYS, then NAMES in the order of Laws.says(), each filled up with blanks
+        private static final String WORDS =
+            "weighspays  asks  or    and   not   day   born  year  more  told  who   ";
 
         final int[] bytes;
         int size;
@@ -933,7 +938,7 @@ public final class TwoOnOneDay {
             bytes = new int[MOST_BYTES];
         }
 
-        void append(int b) {
+        void add(int b) {
             if (size < bytes.length) {
                 bytes[size] = b;
                 size++;
@@ -967,8 +972,8 @@ public final class TwoOnOneDay {
                 end++;
             }
             token = WRONG;
-            for (int w = 0; w < WORDS; w++) {
-                if (isSpelled(wordOf(w))) {
+            for (int w = 0; w * MOST_LETTERS < WORDS.length(); w++) {
+                if (isWord(w)) {
                     token = w < KEYS ? KEY + w : NAME;
                     value = w - KEYS;
                     return;
@@ -976,12 +981,15 @@ public final class TwoOnOneDay {
             }
         }
 
-        private boolean isSpelled(String word) {
-            if (word.length() != end - start) {
+        /** The WORD that was read is number w of WORDS. */
+        private boolean isWord(int w) {
+            int length = end - start;
+            if (length > MOST_LETTERS) {
                 return false;
             }
-            for (int i = 0; i < word.length(); i++) {
-                if (bytes[start + i] != word.charAt(i)) {
+            for (int i = 0; i < MOST_LETTERS; i++) {
+                int letter = i < length ? bytes[start + i] : ' ';
+                if (letter != WORDS.charAt(w * MOST_LETTERS + i)) {
                     return false;
                 }
             }
@@ -995,23 +1003,6 @@ public final class TwoOnOneDay {
                 end++;
             }
             token = end - start > MOST_DIGITS ? WRONG : NUMBER;
-        }
-
-        static String wordOf(int w) {
-            switch (w) {
-                case 0: return "weighs";
-                case 1: return "pays";
-                case 2: return "asks";
-                case 3: return "or";
-                case 4: return "and";
-                case 5: return "not";
-                case 6: return "day";
-                case 7: return "born";
-                case 8: return "year";
-                case 9: return "more";
-                case 10: return "told";
-                default: return "who";
-            }
         }
 
         static boolean isBlank(int b) {
@@ -1255,7 +1246,7 @@ public final class TwoOnOneDay {
         }
 
         /** The caller has seen that there is room. */
-        int append(Text made) {
+        int add(Text made) {
             int t = number;
             if (t < MOST_TEXTS) {
                 texts[t] = made;
@@ -1497,7 +1488,7 @@ public final class TwoOnOneDay {
         }
 
         long apart(int set) {
-            return set >= 0 && set <= everyone ? apart.found(set, 0) : 0;
+            return set >= 0 && set <= everyone ? apart.ways(set, 0) : 0;
         }
 
         long meeting(int set) {
@@ -1506,9 +1497,9 @@ public final class TwoOnOneDay {
 
         /** So many or more have one DAY. */
         long together(int many) {
-            upTo.limit(many - 1);
+            upTo.allow(many - 1);
             upTo.fill(onOneDay, everyone);
-            return ofAll() - upTo.found(everyone, 0);
+            return ofAll() - upTo.ways(everyone, 0);
         }
 
         /** There are just n PAIRS, or DAYS TAKEN. */
@@ -1518,13 +1509,13 @@ public final class TwoOnOneDay {
                     pairs.fill(onOneDay, everyone);
                     pairsVersion = version;
                 }
-                return pairs.found(everyone, n);
+                return pairs.ways(everyone, n);
             }
             if (takenVersion != version) {
                 daysTaken.fill(onOneDay, everyone);
                 takenVersion = version;
             }
-            return daysTaken.found(everyone, n);
+            return daysTaken.ways(everyone, n);
         }
 
         /** A DAY is TAKEN. */
@@ -1655,7 +1646,7 @@ public final class TwoOnOneDay {
             width = most(MOST_PEOPLE) + 1;
             pieces = new long[(MOST_PEOPLE + 1) * width];
             found = new long[MOST_SETS * width];
-            limit(atMost);
+            allow(atMost);
         }
 
         /** What so many on one DAY add to the number. */
@@ -1676,7 +1667,8 @@ public final class TwoOnOneDay {
             }
         }
 
-        void limit(int atMost) {
+        /** From now on so many at most may have one DAY. */
+        void allow(int atMost) {
             limit = atMost;
             for (int size = 1; size <= MOST_PEOPLE; size++) {
                 for (int n = 0; n < width; n++) {
@@ -1739,7 +1731,7 @@ public final class TwoOnOneDay {
             }
         }
 
-        long found(int set, int n) {
+        long ways(int set, int n) {
             return n >= 0 && n < width ? found[set * width + n] : 0;
         }
     }
