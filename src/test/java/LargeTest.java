@@ -27,7 +27,7 @@ public final class LargeTest {
         most.make(24, 7, 0, "weighs 9;pays 40;asks 40;");
         most.checkAll();
         Random random = new Random(7);
-        for (int i = 0; i < 16; i++) {
+        for (int i = 0; i < 12; i++) {
             LargeTest some = new LargeTest("by lot " + i);
             some.make(i < 4 ? 24 : 13 + random.nextInt(12), i < 4 ? 7 : 5 + random.nextInt(3), random.nextInt(3) - 1,
                 "weighs (born+who)*(day<" + random.nextInt(20) + "+who*2)+(" + random.nextInt(10) + "-born)*(not day<"

@@ -26,7 +26,7 @@ public final class ModelTest {
     private ModelTest(int run) {
         this.run = run;
         random = new Random(20261118L + run);
-        crowd = random.nextInt(8);
+        crowd = random.nextInt(5) + random.nextInt(4);
     }
 
     public static void main(String[] arguments) throws Exception {
@@ -55,10 +55,11 @@ public final class ModelTest {
             if (COUNTING.contains(name) && model.manyWays() > MOST_WAYS) {
                 continue;
             }
-            if (name.equals("set") && random.nextInt(3) != 0) {
+            boolean isRare = name.equals("set") || name.equals("feed") || name.equals("image") || name.equals("back");
+            if (isRare && random.nextInt(4) != 0) {
                 continue;
             }
-            if (name.equals("feed") || name.equals("text") && random.nextInt(4) != 0) {
+            if (name.equals("feed") || name.equals("text") && random.nextInt(4) == 0) {
                 feedAll(methods, text());
                 continue;
             }
@@ -129,8 +130,13 @@ public final class ModelTest {
                 default -> random.nextInt(7);
             };
         }
+        int[] wild = a.clone();
         if (random.nextInt(8) != 0) {
             makeLikely(name, a);
+        }
+        if (many > 0 && random.nextInt(6) == 0) {
+            int i = random.nextInt(many);
+            a[i] = wild[i];
         }
         return a;
     }

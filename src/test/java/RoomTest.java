@@ -21,6 +21,7 @@ public final class RoomTest {
         for (int i = 0; i < CALLS / 60; i++) {
             sum += allCalls(x, i);
         }
+        Check.due("its texts came", x.count(2), 6);
         long used = room.getThreadAllocatedBytes(me) - before;
         System.out.println("bytes made: " + made + " for an object, " + used + " for its calls (" + sum + ")");
         // 7.3 million elements in all: an object is to be some ten thousand, its calls as good as none
@@ -31,11 +32,7 @@ public final class RoomTest {
 
     private static long allCalls(TwoOnOneDay x, int i) {
         long sum = x.set(0, 0, 24) + x.set(1, i % 24, i % 10) + x.count(0) + x.bornOn(1);
-        for (int k = 0; k + 5 <= LONG_TEXT.length(); k += 5) {
-            sum += x.feed(5, LONG_TEXT.charAt(k), LONG_TEXT.charAt(k + 1), LONG_TEXT.charAt(k + 2),
-                LONG_TEXT.charAt(k + 3), LONG_TEXT.charAt(k + 4));
-        }
-        sum += x.text() + x.force(i % 3) + x.asks(0, 0, 0) + x.person(i % 6, 9, i % 24) + x.move(0, i % 24);
+        sum += Check.text(x, LONG_TEXT) + x.force(i % 3) + x.asks(0, 0, 0) + x.person(i % 6, 9, i % 24) + x.move(0, i % 24);
         sum += x.told(0, 4) + x.weight(0, 0) + x.meets(2, 0) + x.among(1, 0) + x.mine(0, 0) + x.likeliest();
         sum += x.many(0, 1, 0) + x.likely(1) + x.mean(0, 0) + x.covers(1, 0) + x.near(2, 0) + x.needs(1);
         sum += x.first(0, 0) + x.place() + x.asked(0) + x.host(2, 0) + x.cheap(1, 0) + x.wager(1, 0);
