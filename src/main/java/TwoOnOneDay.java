@@ -1086,6 +1086,7 @@ public final class TwoOnOneDay {
             }
         }
 
+        /** E. Of it and all below, open tells how many ( , not and - are open. */
         private void any(int open) {
             all(open);
             for (int i = 0; i < MOST_BYTES && tape.token == Tape.OR; i++) {
@@ -1095,6 +1096,7 @@ public final class TwoOnOneDay {
             }
         }
 
+        /** AND. */
         private void all(int open) {
             oneSided(open);
             for (int i = 0; i < MOST_BYTES && tape.token == Tape.AND; i++) {
@@ -1127,6 +1129,7 @@ public final class TwoOnOneDay {
             }
         }
 
+        /** SUM. */
         private void sum(int open) {
             term(open);
             for (int i = 0; i < MOST_BYTES && (tape.token == '+' || tape.token == '-'); i++) {
@@ -1137,6 +1140,7 @@ public final class TwoOnOneDay {
             }
         }
 
+        /** TERM. */
         private void term(int open) {
             one(open);
             for (int i = 0; i < MOST_BYTES && tape.token == '*'; i++) {
@@ -1146,6 +1150,7 @@ public final class TwoOnOneDay {
             }
         }
 
+        /** ONE. */
         private void one(int open) {
             int token = tape.token;
             if (token == Tape.NUMBER) {

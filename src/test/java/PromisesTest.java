@@ -63,6 +63,7 @@ public final class PromisesTest {
         due("2 born again", x.set(1, 4, 3), 9);
         due("4 bornOn", x.bornOn(4), 3);
         due("4 bornOn", x.bornOn(0), 0);
+        due("2 none are born", x.set(1, 0, 0), 0);
         due("4 no day", x.bornOn(5), BAD);
         due("4 no day", x.bornOn(-1), BAD);
         due("4 no day", x.bornOn(MAX), BAD);
@@ -85,6 +86,19 @@ public final class PromisesTest {
         due("5 six", x.feed(6, 1, 1, 1, 1, 1), BAD);
         due("5 no byte", x.feed(1, 256, 1, 1, 1, 1), BAD);
         due("5 no byte, though it would not come", x.feed(1, 1, 1, 1, 1, -1), BAD);
+        for (int i = 0; i < 5; i++) {
+            int[] five = {0, 255, 0, 255, 255};
+            five[i] = 256;
+            due("5 no byte at " + i, x.feed(5, five[0], five[1], five[2], five[3], five[4]), BAD);
+            five[i] = -1;
+            due("5 no byte at " + i, x.feed(1, five[0], five[1], five[2], five[3], five[4]), BAD);
+        }
+        due("5 bytes", x.feed(5, 255, 0, 255, 0, 255), 5);
+        due("6 a byte that begins no token", x.text(), -100);
+        x.feed(5, 'w', 'e', 'i', 'g', 'h');
+        x.feed(3, 's', ' ', '1', 'a', 'a');
+        x.feed(4, ';', 'p', 'a', 'z', 'a');
+        due("5 one by one", x.text(), -109);
         due("5 five", x.feed(5, 32, 32, 32, 32, 32), 5);
         for (int i = 0; i < 30; i++) {
             x.feed(5, 32, 10, 32, 10, 32);
@@ -188,7 +202,8 @@ public final class PromisesTest {
             "", "0", "weighs", "6", "   ", "3", "pays", "0", "weighs 1", "8", "weighs 1;", "9",
             "weighs 1;pays 2;asks 3", "22", "weighs 1;pays 2;asks 3; ;", "24", "weighs 1;pays 2;asks 3;weighs", "23",
             "weighs 1;asks", "9", "weighs ;", "7", "weighs 1 2", "9", "weighs 1+;", "9", "weighs +1", "7",
-            "weighs day day", "11", "weighs days", "7", "weighs wei", "7", "weighs weighs", "7", "weighs A", "7",
+            "weighs day day", "11", "weighs dayz", "7", "weighs yea", "7", "weighs zwho", "7", "weighs tolda", "7",
+            "weighs yearyear", "7", "weighs weigh", "7", "weighs days", "7", "weighs wei", "7", "weighs weighs", "7", "weighs A", "7",
             "weighs 12345", "7", "weighs 00001", "7", "weighs 1\t", "8", "weighs 1>2", "8", "weighs 1<2<3", "10",
             "weighs 1=2<3", "10", "weighs 1*not 2", "9", "weighs not", "10", "weighs (1;", "9", "weighs 1)", "8",
             "weighs ()", "8", "weighs 1 or", "11", "weighs or 1", "7", "weighs 1 and and", "13", "weighs 1<not 2", "9",
@@ -276,6 +291,8 @@ public final class PromisesTest {
         }
         x.move(4, 2);
         weights("12 a nearly that moved", x, 4, 0, 0, 1, 5, 0);
+        x.move(4, 3);
+        weights("12 a nearly that moved", x, 4, 0, 0, 0, 1, 5);
         x.set(1, 1, 9);
         x.set(1, 3, 6);
         Check.law(x, "weighs born+told-4;pays 1;asks 1;");
@@ -331,6 +348,9 @@ public final class PromisesTest {
         Check.none("15 no day", part -> x.mine(3, part));
         Check.none("15 no day", part -> x.mine(-1, part));
         due("16 of like ones the first", x.likeliest(), 0);
+        TwoOnOneDay told = new TwoOnOneDay();
+        told.person(2, 0, 3);
+        due("16 in one way alone", told.likeliest(), 3);
         Check.fraction("17 no pairs", part -> x.many(0, 0, part), 2, 9);
         Check.fraction("17 a pair", part -> x.many(0, 1, part), 2, 3);
         Check.fraction("17 two pairs", part -> x.many(0, 2, part), 0, 1);
@@ -365,7 +385,9 @@ public final class PromisesTest {
         Check.none("21 25", part -> x.near(25, part));
         Check.none("21 below 0", part -> x.near(-1, part));
         moreLikely();
+        nearByOthers();
         noWays();
+        firstCalls();
     }
 
     private static void moreLikely() {
@@ -401,9 +423,77 @@ public final class PromisesTest {
         Check.fraction("13 seven", part -> z.meets(7, part), 1, 1);
     }
 
+    private static void nearByOthers() {
+        // three of six days: 0 2 4 or 1 3 5, in any order, are 12 of 216
+        TwoOnOneDay x = persons(6, 3);
+        Check.fraction("21 three", part -> x.near(1, part), 17, 18);
+        Check.fraction("21 three", part -> x.near(2, part), 1, 1);
+        // two of seven days: 3 or 4 apart are 14 of 49
+        TwoOnOneDay y = persons(7, 2);
+        Check.fraction("21 two", part -> y.near(2, part), 5, 7);
+        Check.fraction("21 two", part -> y.near(3, part), 1, 1);
+        // on days 0 and 3 of eight: from both further than 1 are 5 and 6
+        TwoOnOneDay z = new TwoOnOneDay();
+        z.set(0, 0, 8);
+        z.person(2, 0, 0);
+        z.person(0, 0, 1);
+        z.person(2, 0, 3);
+        Check.fraction("21 two are told", part -> z.near(0, part), 1, 4);
+        Check.fraction("21 two are told", part -> z.near(1, part), 3, 4);
+        Check.fraction("21 two are told", part -> z.near(2, part), 1, 1);
+        // six of 24 days, each 4 behind the last one: 4 times 720 ways of 24 to the sixth
+        Check.fraction("21 six of 24", part -> persons(24, 6).near(3, part), 331771, 331776);
+        Check.fraction("21 seven of 24", part -> persons(24, 7).near(3, part), 1, 1);
+    }
+
+    /** What is asked first of all, and again when something has changed. */
+    private static void firstCalls() {
+        Check.fraction("13 at once", part -> persons(3, 3).meets(2, part), 7, 9);
+        Check.fraction("14 at once", part -> persons(3, 3).among(3, part), 1, 3);
+        Check.fraction("15 at once", part -> persons(3, 3).mine(1, part), 19, 27);
+        Check.fraction("17 at once", part -> persons(3, 3).many(0, 1, part), 2, 3);
+        Check.fraction("17 at once", part -> persons(3, 3).many(1, 2, part), 2, 3);
+        due("18 at once", persons(3, 3).likely(0), 1);
+        due("18 at once", persons(3, 3).likely(1), 2);
+        Check.fraction("19 at once", part -> persons(3, 3).mean(0, part), 1, 1);
+        Check.fraction("20 at once", part -> persons(3, 3).covers(7, part), 2, 9);
+        Check.fraction("21 at once", part -> persons(3, 3).near(0, part), 7, 9);
+        due("22 at once", persons(3, 3).needs(50), 3);
+        Check.fraction("23 at once", part -> persons(3, 3).first(2, part), 4, 9);
+        due("24 at once", persons(3, 3).place(), 2);
+        Check.fraction("25 at once", part -> persons(3, 3).asked(part), 8, 3);
+        due("26 at once", persons(3, 3).host(3, 0), 7);
+        due("26 at once", persons(3, 3).host(2, 2), 3);
+        due("27 at once", persons(3, 3).cheap(40, 1), 3);
+        Check.fraction("28 at once", part -> persons(3, 3).wager(3, part), -2, 3);
+        due("35 at once", persons(3, 3).drawn(0, 0), 48271 % 3);
+        Check.fraction("37 at once", part -> persons(3, 4).odds(0, 9, part), 1, 1);
+        due("11 at once", persons(3, 3).told(2, 4), 3);
+        due("12 at once", persons(3, 3).weight(2, 2), 1);
+        TwoOnOneDay x = persons(3, 1);
+        x.person(2, 1, 1);
+        Check.row(x, 0, 2, 0, 2);
+        due("30 at once", x.list(0, 3), 2);
+        x.move(1, 2);
+        due("30 when one moved", x.list(0, 3), 0);
+        Check.fraction("31 at once", part -> x.comes(0, part), 1, 3);
+        Check.row(x, 0, 2, 1, 1);
+        x.set(0, 0, 4);
+        Check.fraction("32 when there are more days", part -> x.luck(0, part), 1, 4);
+        Check.fraction("13 the same again", part -> x.meets(2, part), 1, 4);
+        x.person(0, 0, 0);
+        Check.fraction("13 when one more came", part -> x.meets(2, part), 5, 8);
+        Check.fraction("17 when one more came", part -> x.many(0, 3, part), 1, 16);
+        Check.fraction("17 when one more came", part -> x.many(1, 1, part), 1, 16);
+        Check.law(x, "weighs day=2;pays 1;asks 1;");
+        Check.fraction("13 by another law", part -> x.meets(3, part), 1, 1);
+        Check.fraction("17 by another law", part -> x.many(0, 3, part), 1, 1);
+        Check.fraction("17 by another law", part -> x.many(1, 1, part), 1, 1);
+    }
+
     private static void noWays() {
         TwoOnOneDay x = persons(1, 2);
-        x.person(3, 0, 0);
+        x.person(3, 9, 0);
         Check.none("13 no ways", part -> x.meets(2, part));
         Check.none("14 no ways", part -> x.among(4, part));
         Check.fraction("14 ways of that set", part -> x.among(3, part), 1, 1);
@@ -461,6 +551,11 @@ public final class PromisesTest {
         due("24 of like ones the first", persons(2, 3).place(), 1);
         due("24 one alone", persons(2, 1).place(), -1);
         due("24 nobody", persons(2, 0).place(), -1);
+        // 1 of 2, and 1 of 2 again by ten times as many ways
+        TwoOnOneDay y = persons(2, 2);
+        y.person(1, 9, 0);
+        due("24 by ways of those up to it", y.place(), 1);
+        Check.fraction("23 by ways of those up to it", part -> y.first(2, part), 1, 2);
         Check.fraction("25 five", x::asked, 103, 32);
         Check.fraction("25 nobody", persons(3, 0)::asked, 0, 1);
         Check.fraction("25 one", persons(3, 1)::asked, 1, 1);
@@ -517,6 +612,17 @@ public final class PromisesTest {
         Check.fraction("28 a fraction", part -> x.wager(24, part), 17, 2);
         Check.none("28 no such set", part -> x.wager(32, part));
         Check.none("28 no such set", part -> x.wager(-1, part));
+
+        // 26, 27: a late one with as many others as it has more
+        TwoOnOneDay late = new TwoOnOneDay();
+        late.set(0, 0, 2);
+        late.person(2, 0, 1);
+        late.person(3, 1, 0);
+        late.person(2, 0, 0);
+        due("26 late with one", late.host(2, 0), 3);
+        due("26 late with two", late.host(3, 0), -1);
+        late.person(3, 2, 0);
+        due("26 two late with two", late.host(3, 0), 13);
 
         // 26: compared as fractions, not as numbers above the line: 1 of 2 beats 3 of 9
         TwoOnOneDay y = new TwoOnOneDay();
@@ -622,6 +728,10 @@ public final class PromisesTest {
         due("33 texts", x.laws(0), 3);
         x.cell(0, 0, 1);
         due("33 texts", x.laws(0), 5);
+        TwoOnOneDay told = new TwoOnOneDay();
+        told.person(2, 0, 3);
+        Check.row(told, 0, 0, 4);
+        due("33 by none", told.laws(0), 0);
         x.force(1);
         due("29 by the law", x.judge(0), 0);
         due("34 told days", x.can(0, 0, 0), 1);
@@ -639,6 +749,15 @@ public final class PromisesTest {
         x.cell(0, 1, 0);
         // of day 0, told day 3: a nearly round the year
         due("34 kinds", x.can(0, 1, 1), 0b110011);
+        x.set(0, 0, 6);
+        x.move(1, 2);
+        // of day 0, told day 2, of six: a person, a spring, a shy one
+        due("34 kinds", x.can(0, 1, 1), 0b100011);
+        Check.law(x, "weighs 0;pays 1;asks 1;");
+        due("34 kinds: none but a spring and a shy one", x.can(0, 1, 1), 0b100010);
+        x.cell(0, 1, 5);
+        due("34 kinds: a shy one alone", x.can(0, 1, 1), 0b100000);
+        due("34 told days: none", x.can(0, 1, 0), 0);
         due("34 unchanged", x.told(1, 0), 1);
         due("34 unchanged", x.told(0, 2), 1);
     }
@@ -716,6 +835,7 @@ public final class PromisesTest {
         x.person(0, 0, 0);
         x.move(0, 7);
         x.move(1, 2);
+        due("12 weights ahead of 39", x.weight(0, 7), 1);
         x.set(1, 5, 9);
         x.set(1, 11, 1);
         x.set(0, 0, 9);
@@ -723,6 +843,8 @@ public final class PromisesTest {
         Check.text(x, "weighs 3;pays 1;asks 1;");
         Check.tape(x, "abc");
         Check.row(x, 0, 0, 1, 2);
+        due("12 weights ahead of 39", x.weight(1, 0), 1);
+        due("12 weights ahead of 39", x.weight(0, 7), 1);
         due("39", x.back(), 2);
         due("39 people", x.count(0), 2);
         due("39 the year", x.count(1), 12);
@@ -841,6 +963,12 @@ public final class PromisesTest {
         due("43 far outside", x.peopleBy(0, 0, MIN, 7), -12);
         due("43 nobody came", x.count(0), 0);
         due("43 none", x.peopleBy(0, 0, 0, 0), 0);
+        TwoOnOneDay y = new TwoOnOneDay();
+        Check.row(y, 2, 1, 5, 9, 11, 3);
+        due("43 shorts", y.peopleBy(2, 1, 0, 1), 1);
+        Check.row(y, 3, 2, 7, 5, 8, 10);
+        due("43 ints", y.peopleBy(3, 2, 1, 1), 1);
+        due("43 who came", y.told(1, 0) * 1000 + y.told(1, 1) * 100 + y.told(1, 2), 5810);
         due("43 two came, one is left out", x.peopleBy(0, 0, 1, 3), 2);
         due("43 as of person()", x.told(0, 0) * 100 + x.told(0, 1) * 10 + x.told(0, 2), 123);
         due("43 as of person()", x.told(1, 0) * 100 + x.told(1, 1) * 10 + x.told(1, 2), 41);
@@ -861,6 +989,9 @@ public final class PromisesTest {
         x.set(0, 0, 24);
         x.set(1, 23, 7);
         x.set(1, 11, 2);
+        x.set(1, 0, 5);
+        due("44 the first day", x.taken(0, 6), 5);
+        due("44 outside", x.taken(MIN, 6), -12);
         due("44 kind", x.taken(99, 7), BAD);
         due("44 kind", x.taken(0, -1), BAD);
         due("44 outside", x.taken(31, 0), -12);
