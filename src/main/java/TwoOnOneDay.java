@@ -1286,7 +1286,7 @@ public final class TwoOnOneDay {
         }
     }
 
-    /** How heavy each DAY is for each, and DAYS by LOT. What is kept holds till something changes of which it depends. */
+    /** How heavy each DAY is for each, and DAYS by LOT. What is kept holds till what it depends of changes. */
     private static final class Weights {
         private static final long LOT_FACTOR = 48271, LOT_MODULUS = 2147483647;
 
