@@ -23,6 +23,7 @@ public final class LargeTest {
     }
 
     public static void main(String[] arguments) {
+        Check.watch();
         LargeTest most = new LargeTest("most");
         most.make(24, 7, 0, "weighs 9;pays 40;asks 40;");
         most.checkAll();

@@ -30,6 +30,7 @@ public final class ModelTest {
     }
 
     public static void main(String[] arguments) throws Exception {
+        Check.watch();
         Method[] methods = publicMethods();
         for (int run = 0; run < RUNS && wrong < 20; run++) {
             new ModelTest(run).goThrough(methods);

