@@ -195,7 +195,8 @@ final class LotEdges {
         Check.due("no sheet came", x.judge(0), -11);
     }
 
-    private static int metBy(int days, int people, int seed, int seeds) {
+    /** By how many of these seeds two of some PERSONS have one DAY, told by lots alone. */
+    static int metBy(int days, int people, int seed, int seeds) {
         int met = 0;
         for (int i = seed; i < seed + seeds; i++) {
             boolean meets = false;

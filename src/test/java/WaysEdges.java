@@ -12,6 +12,7 @@ final class WaysEdges {
             WaysEdges::roundTheYear);
         Sentences.sentence(Sentences.TERMS, "part 0 above, 1 below the line, in lowest terms", WaysEdges::lowestTerms);
         Sentences.sentence(Sentences.TERMS, "NO: none such;", WaysEdges::noSuchPart);
+        fractions();
         Sentences.sentence(Sentences.TERMS, "what is below the line is 0.", WaysEdges::nothingBelow);
         Sentences.sentence(13, "HOW LIKELY many (1 .. 7) or more have one DAY, whichever.", WaysEdges::meets);
         Sentences.sentence(14, "HOW LIKELY of a set (bits) THEY MEET, by all WAYS of that set.", WaysEdges::among);
@@ -32,6 +33,38 @@ final class WaysEdges {
             WaysEdges::place);
         Sentences.sentence(25, "How many are asked ONE BY ONE in the mean.", WaysEdges::asked);
         Sentences.sentence(Sentences.TERMS, "till two of those who were asked MEET, or all were.", WaysEdges::tillAllWere);
+    }
+
+    /** Each promise that answers a FRACTION answers just its two parts. */
+    private static void fractions() {
+        TwoOnOneDay x = Made.persons(4, 3);
+        Check.row(x, 0, 2, 0, 1, 1);
+        twoParts(13, part -> x.meets(2, part), 5, 8);
+        twoParts(14, part -> x.among(6, part), 1, 4);
+        twoParts(15, part -> x.mine(3, part), 37, 64);
+        twoParts(17, part -> x.many(0, 1, part), 9, 16);
+        twoParts(17, part -> x.many(1, 2, part), 9, 16);
+        twoParts(19, part -> x.mean(0, part), 3, 4);
+        twoParts(19, part -> x.mean(1, part), 37, 16);
+        twoParts(20, part -> x.covers(9, part), 9, 32);
+        twoParts(21, part -> x.near(0, part), 5, 8);
+        twoParts(23, part -> x.first(2, part), 3, 8);
+        twoParts(25, x::asked, 11, 4);
+        twoParts(28, part -> x.wager(3, part), -1, 1);
+        twoParts(31, part -> x.comes(0, part), 1, 64);
+        twoParts(32, part -> x.luck(0, part), 5, 8);
+        int met = LotEdges.metBy(4, 3, 0, 7);
+        twoParts(37, part -> x.odds(0, 7, part), met, 7);
+    }
+
+    private static void twoParts(int promise, Check.Fraction got, long above, long below) {
+        Sentences.sentence(promise, "FRACTION", () -> {
+            Check.due("above", got.part(0), above);
+            Check.due("below", got.part(1), below);
+            for (int part : new int[] {-1, 2, 3, MIN, MAX}) {
+                Check.due("part " + part, got.part(part), TwoOnOneDay.NO);
+            }
+        });
     }
 
     private static void fraction(String what, Check.Fraction got, long above, long below) {

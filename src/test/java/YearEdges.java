@@ -130,7 +130,10 @@ final class YearEdges {
     private static void what() {
         TwoOnOneDay x = new TwoOnOneDay();
         for (int what : new int[] {-1, 2, MIN, MAX}) {
-            Check.due("set(" + what + ", 0, 1)", x.set(what, 0, 1), NONE);
+            for (int v : new int[] {1, 0, -1, 25, MIN, MAX}) {
+                Check.due("set(" + what + ", 0, " + v + ")", x.set(what, 0, v), NONE);
+                Check.due("set(" + what + ", -1, " + v + ")", x.set(what, -1, v), NONE);
+            }
         }
         Check.due("the year stays", x.count(1), 12);
         Check.due("none are born", x.bornOn(0), 0);
